@@ -593,7 +593,7 @@ public final class CubeDesk {
         }
     }
 
-    /** A set of groups, a bit for each number that a group can have. */
+    /** A set of groups, a bit for each number that a group can have; a shift by it takes its lowest six bits alone. */
     private static final class GroupSet {
         private static final int WORDS = 64;
         private static final int WORD_SHIFT = 6;
@@ -607,13 +607,13 @@ public final class CubeDesk {
             held = 0;
         }
 
-        private boolean holds(int group) {
-            return group >= 0 && group < MOST_GROUPS && (words[group >> WORD_SHIFT] >> group & 1L) != 0L;
-        }
-
         void add(int group) {
-            if (group >= 0 && group < MOST_GROUPS && !holds(group)) {
-                words[group >> WORD_SHIFT] |= 1L << group;
+            if (group < 0 || group >= MOST_GROUPS) {
+                return;
+            }
+            long bit = 1L << group;
+            if ((words[group >> WORD_SHIFT] & bit) == 0L) {
+                words[group >> WORD_SHIFT] |= bit;
                 held++;
             }
         }
@@ -622,7 +622,7 @@ public final class CubeDesk {
         int at(int k) {
             int before = 0;
             for (int group = 0; group < MOST_GROUPS && before < held; group++) {
-                if (holds(group)) {
+                if ((words[group >> WORD_SHIFT] & 1L << group) != 0L) {
                     if (before == k) {
                         return group;
                     }
@@ -710,10 +710,11 @@ public final class CubeDesk {
         }
 
         private void collectGroups(int cuboid) {
+            int here = levelsOf(cuboid);
             groups.clear();
             for (int fact = 0; fact < book.came; fact++) {
                 if (book.isThere(fact)) {
-                    groups.add(space.groupOf(book.cellOf(fact), levelsOf(cuboid)));
+                    groups.add(space.groupOf(book.cellOf(fact), here));
                 }
             }
         }
@@ -846,29 +847,30 @@ public final class CubeDesk {
                 return 0;
             }
             lattice.fillBare(costs[k]);
-            return extend(k, 0, 0, 0);
+            return extend(this, k, 0, 0, 0);
         }
 
         /**
          * The greatest gain, at least floor, of what has gained so far and up to left more cuboids from start on.
          * With more kept no cuboid spares more, so what each spares now bounds what it can add later.
          */
-        private int extend(int left, int start, int gained, int floor) {
+        private static int extend(BestSearch it, int left, int start, int gained, int floor) {
             if (left < 1 || left > MOST_SEARCHED) {
                 return floor;
             }
-            int end = Math.min(lattice.total, MOST_CUBOIDS_SEARCHED);
+            int[] extra = it.extras[left];
+            int end = Math.min(it.lattice.total, extra.length);
             int most = 0;
             for (int cuboid = start; cuboid < end; cuboid++) {
-                extras[left][cuboid] = lattice.sparedBy(cuboid, costs[left]);
-                most = Math.max(most, extras[left][cuboid]);
+                extra[cuboid] = it.lattice.sparedBy(cuboid, it.costs[left]);
+                most = Math.max(most, extra[cuboid]);
             }
             int greatest = Math.max(floor, gained + most);
             for (int cuboid = start; left > 1 && cuboid < end; cuboid++) {
-                int with = gained + extras[left][cuboid];
+                int with = gained + extra[cuboid];
                 if (with + (left - 1) * most > greatest) {
-                    lattice.lower(costs[left], costs[left - 1], cuboid);
-                    greatest = extend(left - 1, cuboid + 1, with, greatest);
+                    it.lattice.lower(it.costs[left], it.costs[left - 1], cuboid);
+                    greatest = extend(it, left - 1, cuboid + 1, with, greatest);
                 }
             }
             return greatest;

@@ -85,6 +85,7 @@ public final class PromiseTest {
     table();
     out();
     count();
+    fullDesk();
     System.out.println(asked + " answers looked at, " + wrong + " not as due");
     if (wrong != 0) System.exit(1);
   }
@@ -825,5 +826,34 @@ public final class PromiseTest {
     due(28, "count(5) of cuboid 0 alone", x.count(5), 3);
     due(28, "count(6)", x.count(6), OUTSIDE);
     for (int far : FAR) due(28, "count(" + far + ")", x.count(far), OUTSIDE);
+  }
+
+  /** All that a desk can hold: 4 dimensions with 3 levels of 8 members each, 256 cuboids, 300 facts in 300 groups. */
+  private static void fullDesk() {
+    CubeDesk x = new CubeDesk();
+    for (int d = 0; d < 4; d++) {
+      x.dimension(8);
+      x.level(d, 8);
+      x.level(d, 8);
+    }
+    for (int n = 0; n < 300; n++) factAt(x, 1000, n % 8, n / 8 % 8, n / 64, 7);
+    due(12, "size(0) of a full desk", x.size(0), 300);
+    due(12, "size(3) of a full desk", x.size(3), 300);
+    due(12, "size(255) of a full desk", x.size(255), 1);
+    due(22, "group(0, 299) of a full desk", x.group(0, 299), 7737);
+    due(22, "group(0, 300) of a full desk", x.group(0, 300), NONE);
+    due(18, "gain(255) of a full desk", x.gain(255), 299);
+    due(18, "gain(4) of a full desk", x.gain(4), 192 * (300 - 64));
+    due(20, "best(1) of a full desk", x.best(1), STATE);
+    due(11, "levelOf(228, 1)", x.levelOf(228, 1), 2);
+    due(17, "server(255) of a full desk", x.server(255), 0);
+    for (int d = 0; d < 4; d++) x.pick(d, 0);
+    due(21, "ask(255, 1) of a full desk", x.ask(255, 1), 300000);
+    due(23, "read() of a full desk", x.read(), 300);
+    due(26, "table(3, 33, 1) of a full desk", x.table(3, 33, 1), 28);
+    dueOut(26, x, 28, "300000 300000\n300000 300000\n");
+    for (int c = 0; c < 256; c++) x.keep(c, true);
+    due(28, "count(3) of a full desk", x.count(3), 256);
+    due(17, "server(254), levels 1 1 1 0 of a full desk", x.server(254), 84);
   }
 }
