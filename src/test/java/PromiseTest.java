@@ -15,7 +15,8 @@ public final class PromiseTest {
 
   private static void dueOut(int promise, CubeDesk x, int length, String want) {
     StringBuilder got = new StringBuilder();
-    for (int i = 0; i < x.count(4) && i < 1000; i++) got.append((char) x.out(i));
+    int bytes = x.count(4);
+    for (int i = 0; i < bytes && i < 400; i++) got.append((char) x.out(i));
     asked++;
     if (!got.toString().equals(want) || length != want.length()) {
       wrong++;
@@ -783,18 +784,12 @@ public final class PromiseTest {
     factAt(x, 5, 0, 0);
     factAt(x, -5, 0, 0);
     dueOut(26, x, x.table(0, 10, 1), "0 0\n. .\n0 0\n");
-    for (int n = 0; n < 250; n++) factAt(x, -1000, 1, 0);
+    x.pick(0, 1);
+    for (int n = 0; n < 250; n++) x.fact(-1000);
     dueOut(26, x, x.table(0, 10, 1), "0 0\n-250000 -250000\n-250000 -250000\n");
     factAt(x, 99, 0, 0);
     dueOut(26, x, x.table(10, 0, 1), "99 -250000 -249901\n99 -250000 -249901\n");
     dueOut(26, x, x.table(10, 0, 2), "-5 -1000 -1000\n-5 -1000 -1000\n");
-
-    CubeDesk y = desk(8, 8);
-    for (int n = 0; n < 64; n++) factAt(y, -1000, n / 8, n % 8);
-    StringBuilder want = new StringBuilder();
-    for (int r = 0; r < 8; r++) want.append("-1000 ".repeat(8)).append("-8000\n");
-    want.append("-8000 ".repeat(8)).append("-64000\n");
-    dueOut(26, y, y.table(0, 10, 1), want.toString());
   }
 
   private static void out() {
@@ -828,32 +823,50 @@ public final class PromiseTest {
     for (int far : FAR) due(28, "count(" + far + ")", x.count(far), OUTSIDE);
   }
 
-  /** All that a desk can hold: 4 dimensions with 3 levels of 8 members each, 256 cuboids, 300 facts in 300 groups. */
-  private static void fullDesk() {
+  private static CubeDesk widestSpace() {
     CubeDesk x = new CubeDesk();
     for (int d = 0; d < 4; d++) {
       x.dimension(8);
       x.level(d, 8);
       x.level(d, 8);
     }
-    for (int n = 0; n < 300; n++) factAt(x, 1000, n % 8, n / 8 % 8, n / 64, 7);
-    due(12, "size(0) of a full desk", x.size(0), 300);
-    due(12, "size(3) of a full desk", x.size(3), 300);
+    return x;
+  }
+
+  /** 256 cuboids, and a fact of 1000 in each of 150 groups: more would take more than 512 calls. */
+  private static void fullDesk() {
+    CubeDesk x = widestSpace();
+    x.pick(3, 7);
+    for (int n = 0; n < 150; n++) {
+      x.pick(0, n % 8);
+      if (n % 8 == 0) x.pick(1, n / 8 % 8);
+      if (n % 64 == 0) x.pick(2, n / 64);
+      x.fact(1000);
+    }
+    due(12, "size(0) of a full desk", x.size(0), 150);
+    due(12, "size(3) of a full desk", x.size(3), 150);
     due(12, "size(255) of a full desk", x.size(255), 1);
-    due(22, "group(0, 299) of a full desk", x.group(0, 299), 7737);
-    due(22, "group(0, 300) of a full desk", x.group(0, 300), NONE);
-    due(18, "gain(255) of a full desk", x.gain(255), 299);
-    due(18, "gain(4) of a full desk", x.gain(4), 192 * (300 - 64));
+    due(22, "group(0, 149) of a full desk", x.group(0, 149), 7717);
+    due(22, "group(0, 150) of a full desk", x.group(0, 150), NONE);
+    due(18, "gain(255) of a full desk", x.gain(255), 149);
+    due(18, "gain(4) of a full desk", x.gain(4), 192 * (150 - 64));
     due(20, "best(1) of a full desk", x.best(1), STATE);
     due(11, "levelOf(228, 1)", x.levelOf(228, 1), 2);
     due(17, "server(255) of a full desk", x.server(255), 0);
     for (int d = 0; d < 4; d++) x.pick(d, 0);
-    due(21, "ask(255, 1) of a full desk", x.ask(255, 1), 300000);
-    due(23, "read() of a full desk", x.read(), 300);
-    due(26, "table(3, 33, 1) of a full desk", x.table(3, 33, 1), 28);
-    dueOut(26, x, 28, "300000 300000\n300000 300000\n");
+    due(21, "ask(255, 1) of a full desk", x.ask(255, 1), 150000);
+    due(23, "read() of a full desk", x.read(), 150);
+    dueOut(26, x, x.table(3, 33, 1), "150000 150000\n150000 150000\n");
+    allKept();
+  }
+
+  private static void allKept() {
+    CubeDesk x = widestSpace();
+    factAt(x, 1, 0, 0, 0, 7);
+    factAt(x, 1, 1, 1, 1, 7);
     for (int c = 0; c < 256; c++) x.keep(c, true);
-    due(28, "count(3) of a full desk", x.count(3), 256);
-    due(17, "server(254), levels 1 1 1 0 of a full desk", x.server(254), 84);
+    due(28, "count(3) of 256 that are kept", x.count(3), 256);
+    due(17, "server(254), the least number is that of levels 1 1 1 0", x.server(254), 84);
+    due(17, "server(1), all that serve it are as large", x.server(1), 0);
   }
 }
