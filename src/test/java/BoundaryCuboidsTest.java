@@ -188,6 +188,15 @@ public final class BoundaryCuboidsTest extends Boundary {
     dueAll("kept(#) without dimensions", beside(0, 0), new CubeDesk()::kept, OUTSIDE);
   }
 
+  /** Two dimensions, facts at (0,0), (0,1) and (1,0): the sizes are 3 2 2 1. */
+  private static CubeDesk cornerDesk() {
+    CubeDesk x = desk(3, 3);
+    factAt(x, 1, 0, 0);
+    factAt(x, 1, 0, 1);
+    factAt(x, 1, 1, 0);
+    return x;
+  }
+
   // ======== promise 16
 
   @Says(at = "Promise 16", text = "The COST of a cuboid.")
@@ -198,6 +207,13 @@ public final class BoundaryCuboidsTest extends Boundary {
     int[] sizes = {4, 4, 3, 2, 3, 1};
     for (int c = 0; c < 6; c++) due("cost(" + c + ") with all, its own size", x.cost(c), sizes[c]);
     due("cost(0) of a new desk", new CubeDesk().cost(0), 0);
+    int[] withTheFirst = {3, 2, 3, 2};
+    CubeDesk y = cornerDesk();
+    y.keep(1, true);
+    for (int c = 0; c < 4; c++) due("cost(" + c + ") with the one behind cuboid 0", y.cost(c), withTheFirst[c]);
+    y.keep(1, false);
+    y.keep(3, true);
+    due("cost(3) with the last one", y.cost(3), 1);
     factAt(x, 1, 3, 0);
     due("cost(2), which follows a fact that comes", x.cost(2), 4);
     x.drop(5);
@@ -223,6 +239,12 @@ public final class BoundaryCuboidsTest extends Boundary {
     x.keep(2, false);
     due("server(4) without 2", x.server(4), 4);
     due("server(0) of a new desk", new CubeDesk().server(0), 0);
+    int[] withTheFirst = {0, 1, 0, 1};
+    CubeDesk y = cornerDesk();
+    y.keep(1, true);
+    for (int c = 0; c < 4; c++) due("server(" + c + ") with the one behind cuboid 0", y.server(c), withTheFirst[c]);
+    y.keep(3, true);
+    due("server(3) with the last one", y.server(3), 3);
   }
 
   @Says(at = "Promise 17", text = "The SERVER of a cuboid.")
@@ -256,6 +278,11 @@ public final class BoundaryCuboidsTest extends Boundary {
     x.keep(3, false);
     due("gain(3), kept no more", x.gain(3), 4);
     due("gain(1), which gains nothing", x.gain(1), 0);
+    CubeDesk y = cornerDesk();
+    y.keep(1, true);
+    due("gain(1), the one behind cuboid 0, kept", y.gain(1), 0);
+    due("gain(2), as it serves 3 no better", y.gain(2), 1);
+    due("gain(3), the cost being that from 1", y.gain(3), 1);
   }
 
   @Says(at = "Promise 18", text = "The GAIN of a cuboid; 0 of one that is kept.")
@@ -316,10 +343,7 @@ public final class BoundaryCuboidsTest extends Boundary {
     x.choose(1);
     due("kept(2)", x.kept(2), 1);
     due("kept(3)", x.kept(3), 0);
-    CubeDesk y = desk(3, 3);
-    factAt(y, 1, 0, 0);
-    factAt(y, 1, 0, 1);
-    factAt(y, 1, 1, 0);
+    CubeDesk y = cornerDesk();
     due("gain(1), 2 times 1", y.gain(1), 2);
     due("gain(2), 2 times 1", y.gain(2), 2);
     due("gain(3), 1 times 2", y.gain(3), 2);
@@ -385,6 +409,11 @@ public final class BoundaryCuboidsTest extends Boundary {
     factAt(better, 1, 0, 1, 1);
     due("choose(2), one after the other", better.choose(2), 6);
     due("best(2), together more", better.best(2), 7);
+    CubeDesk three = desk(2, 3, 4, 3);
+    int[][] cells = {{0, 0, 2, 1}, {1, 1, 1, 0}, {0, 2, 0, 1}, {0, 2, 2, 0}, {0, 2, 1, 1}, {1, 2, 0, 1}};
+    for (int[] cell : cells) factAt(three, 1, cell);
+    due("choose(3), one after the other", three.choose(3), 18);
+    due("best(3), together more", three.best(3), 19);
   }
 
   @Says(at = "Promise 20", text = "The greatest gain that any k cuboids (0 .. 3), or fewer, have together.")

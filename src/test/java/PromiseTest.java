@@ -1,6 +1,5 @@
 // For each promise of DOC.md: ordinary inputs, the edges that it names, and wrong inputs.
-public final class PromiseTest {
-  private static final int NONE = CubeDesk.NONE, OUTSIDE = CubeDesk.OUTSIDE, STATE = CubeDesk.STATE, FULL = CubeDesk.FULL;
+public final class PromiseTest extends Desks {
   private static final int[] FAR = {Integer.MIN_VALUE, -1000000, -1, 1000000, Integer.MAX_VALUE};
   private static int wrong = 0;
   private static int asked = 0;
@@ -22,39 +21,6 @@ public final class PromiseTest {
       wrong++;
       System.out.println("promise " + promise + ": OUT of " + length + " bytes is [" + got + "], due is [" + want + "]");
     }
-  }
-
-  private static int factAt(CubeDesk x, int measure, int... members) {
-    for (int d = 0; d < members.length; d++) x.pick(d, members[d]);
-    return x.fact(measure);
-  }
-
-  /** Two dimensions: 4 members in 2 in ALL (0 and 1 in 0, 2 and 3 in 1), and 3 members in ALL; no facts. */
-  private static CubeDesk smallSpace() {
-    CubeDesk x = new CubeDesk();
-    x.dimension(4);
-    x.level(0, 2);
-    x.parent(0, 0, 2, 1);
-    x.parent(0, 0, 3, 1);
-    x.dimension(3);
-    return x;
-  }
-
-  /** smallSpace with facts (0,0) 5, (1,0) 7, (2,1) -3, (3,2) 10, (0,0) 2: sizes 4 4 3 2 3 1. */
-  private static CubeDesk smallDesk() {
-    CubeDesk x = smallSpace();
-    factAt(x, 5, 0, 0);
-    factAt(x, 7, 1, 0);
-    factAt(x, -3, 2, 1);
-    factAt(x, 10, 3, 2);
-    factAt(x, 2, 0, 0);
-    return x;
-  }
-
-  private static CubeDesk desk(int... members) {
-    CubeDesk x = new CubeDesk();
-    for (int m : members) x.dimension(m);
-    return x;
   }
 
   public static void main(String[] args) {
@@ -421,7 +387,7 @@ public final class PromiseTest {
   }
 
   private static void serves() {
-    CubeDesk x = smallSpace();
+    CubeDesk x = emptyDesk();
     int[][] want = {
       {1, 1, 1, 1, 1, 1},
       {0, 1, 0, 1, 0, 1},
@@ -823,19 +789,9 @@ public final class PromiseTest {
     for (int far : FAR) due(28, "count(" + far + ")", x.count(far), OUTSIDE);
   }
 
-  private static CubeDesk widestSpace() {
-    CubeDesk x = new CubeDesk();
-    for (int d = 0; d < 4; d++) {
-      x.dimension(8);
-      x.level(d, 8);
-      x.level(d, 8);
-    }
-    return x;
-  }
-
   /** 256 cuboids, and a fact of 1000 in each of 150 groups: more would take more than 512 calls. */
   private static void fullDesk() {
-    CubeDesk x = widestSpace();
+    CubeDesk x = tallDesk(3, 3, 3, 3);
     x.pick(3, 7);
     for (int n = 0; n < 150; n++) {
       x.pick(0, n % 8);
@@ -861,7 +817,7 @@ public final class PromiseTest {
   }
 
   private static void allKept() {
-    CubeDesk x = widestSpace();
+    CubeDesk x = tallDesk(3, 3, 3, 3);
     factAt(x, 1, 0, 0, 0, 7);
     factAt(x, 1, 1, 1, 1, 7);
     for (int c = 0; c < 256; c++) x.keep(c, true);
