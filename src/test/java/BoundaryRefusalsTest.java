@@ -228,6 +228,42 @@ public final class BoundaryRefusalsTest extends Boundary {
   }
 
   @Says(at = "Terms", text = FIRST)
+  static void refusals_theFirstOfSeveralOfLevelAboveANarrowOne() {
+    CubeDesk x = desk(8, 5);
+    x.level(0, 4);
+    x.level(0, 2);
+    x.level(1, 3);
+    due("level(0, 3), OUTSIDE as level 2 has 2, and FULL", x.level(0, 3), OUTSIDE);
+    due("level(0, 2), FULL", x.level(0, 2), FULL);
+    x.fact(1);
+    due("level(0, 3), OUTSIDE, STATE and FULL", x.level(0, 3), OUTSIDE);
+    due("level(0, 2), STATE and FULL", x.level(0, 2), STATE);
+    due("level(1, 4), OUTSIDE as level 1 has 3, and STATE", x.level(1, 4), OUTSIDE);
+    due("level(1, 3), STATE", x.level(1, 3), STATE);
+    due("cuboids()", x.cuboids(), 12);
+  }
+
+  @Says(at = "Terms", text = FIRST)
+  static void refusals_theFirstOfSeveralWithFactsThatWent() {
+    CubeDesk x = desk(8, 8, 8, 8);
+    x.level(0, 4);
+    x.level(0, 2);
+    x.fact(1);
+    x.fact(2);
+    x.drop(0);
+    x.drop(1);
+    due("count(2), none is there", x.count(2), 0);
+    due("dimension(9), OUTSIDE, STATE and FULL", x.dimension(9), OUTSIDE);
+    due("dimension(8), STATE and FULL", x.dimension(8), STATE);
+    due("level(4, 1), OUTSIDE and STATE", x.level(4, 1), OUTSIDE);
+    due("level(0, 3), OUTSIDE, STATE and FULL", x.level(0, 3), OUTSIDE);
+    due("level(0, 2), STATE and FULL", x.level(0, 2), STATE);
+    due("level(1, 9), OUTSIDE and STATE", x.level(1, 9), OUTSIDE);
+    due("level(1, 8), STATE", x.level(1, 8), STATE);
+    due("fact(3), numbered on", x.fact(3), 2);
+  }
+
+  @Says(at = "Terms", text = FIRST)
   static void refusals_theFirstOfSeveralOfFact() {
     CubeDesk x = crowdedDesk();
     due("fact(1001), OUTSIDE and FULL", x.fact(1001), OUTSIDE);
